@@ -17,6 +17,7 @@ public final class PromisesTest {
         test.putLengths();
         test.putRefuses();
         test.putWithoutBlocks();
+        test.justEnoughBlocks();
         test.putTooDeep();
         test.newEntrySplits();
         test.newEntryGrows();
@@ -202,6 +203,56 @@ public final class PromisesTest {
         checks.is("nothing changed", tree.free(), last);
     }
 
+    /** An object whose file 0 has runs that are not yet written, and the others most blocks. */
+    private static ExtentTree crowded(int runs, int others) {
+        ExtentTree tree = new ExtentTree(5);
+        for (int i = 0; i < runs; i++) {
+            tree.put(0, 10 * i, 3, 100 * i + 1, false);
+        }
+        tree.spread(1, 0, 2, 400 + others / 15, 1);
+        tree.spread(2, 0, 2, 1 + others % 15, 1);
+        tree.spread(3, 0, 2, 1 + others % 15, 1);
+        return tree;
+    }
+
+    private void justEnoughBlocks() {
+        int[] runs = {1, 6, 16};
+        for (int depth = 0; depth < runs.length; depth++) {
+            boolean[] seen = new boolean[256];
+            for (int others = 0; others < 1500; others++) {
+                int left = crowded(runs[depth], others).free();
+                if (!seen[left] && left < 12) {
+                    seen[left] = true;
+                    justEnoughBlocks(depth, runs[depth], others);
+                }
+            }
+            checks.is("depth and 1", seen[depth + 1], true);
+            checks.is("fewer", seen[depth], true);
+            checks.is("twice the depth and 3", seen[2 * depth + 3], true);
+            checks.is("fewer than that", seen[2 * depth + 2], true);
+        }
+    }
+
+    private void justEnoughBlocks(int depth, int runs, int others) {
+        ExtentTree putInto = crowded(runs, others);
+        checks.is("depth", putInto.count(0, 1), depth);
+        int left = putInto.free();
+        String with = " at depth " + depth + " with " + left;
+        if (left >= depth + 1) {
+            checks.is("put" + with, putInto.put(0, 5, 1, 1, true), runs + 1);
+            checks.is("punch" + with, crowded(runs, others).punch(0, 1, 1), 1);
+        } else {
+            checks.fails("put" + with, UNSUPPORTED, () -> putInto.put(0, 5, 1, 1, true));
+            checks.fails("punch" + with, UNSUPPORTED, () -> putInto.punch(0, 1, 1));
+        }
+        ExtentTree written = crowded(runs, others);
+        if (left >= 2 * depth + 3) {
+            checks.is("write" + with, written.write(0, 1, 1), runs + 2);
+        } else {
+            checks.fails("write" + with, UNSUPPORTED, () -> written.write(0, 1, 1));
+        }
+    }
+
     private void putTooDeep() {
         ExtentTree tree = new ExtentTree(5);
         int first = 65000;
@@ -290,6 +341,12 @@ public final class PromisesTest {
         checks.is("five are too many for a root", below(tree, 0), "2");
         tree.put(0, 90, 1, 7, true);
         checks.is("the least free one is taken", below(tree, 0), "2 1");
+        tree = tens(5, 15);
+        checks.is("two deep", tree.count(0, 1), 2);
+        tree.punch(0, 20, 65500);
+        checks.is("up by two at once", firsts(tree, 0), "10");
+        checks.is("none deep", tree.count(0, 1), 0);
+        checks.is("none taken", tree.free(), 255);
         tree.punch(0, 0, 65536);
         checks.is("all gone", tree.count(0, 1), 0);
         checks.is("all free", tree.free(), 255);
@@ -429,6 +486,18 @@ public final class PromisesTest {
         checks.is("longest step", tree.strip(0, 89, 2000, 2), 1);
         checks.is("most", tree.strip(0, 0, 1, 2000), 100 - 4 - 10 - 1);
         checks.is("the end", tree.strip(0, 65534, 1, 2), 0);
+        // Each is a punch() of its own: the first one leaves four, which the root has then, so
+        // that the cut made by the second one takes block 1, which is free.
+        ExtentTree settled = new ExtentTree(5);
+        settled.spread(1, 0, 2, 5, 1);
+        settled.put(0, 0, 1, 1, true);
+        settled.put(0, 4, 3, 100, true);
+        settled.spread(0, 10, 10, 3, 500);
+        settled.punch(1, 0, 65536);
+        checks.is("block 2", below(settled, 0), "2");
+        checks.is("one that goes, one that is cut", settled.strip(0, 0, 5, 2), 2);
+        checks.is("block 1", below(settled, 0), "1");
+        checks.is("cut", firsts(settled, 1), "4 6 10 20 30");
         for (int file : WRONG_FILES) {
             checks.fails("strip file", ARGUMENT, () -> tree.strip(file, 0, 1, 1));
         }
@@ -600,6 +669,7 @@ public final class PromisesTest {
         }
         tree.put(0, 0, 32768, 1, true);
         checks.is("longest", tree.written(0, 32767), true);
+        checks.is("behind a written run", tree.written(0, 32768), false);
         for (int file : WRONG_FILES) {
             checks.fails("written file", ARGUMENT, () -> tree.written(file, 0));
         }
