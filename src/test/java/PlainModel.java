@@ -4,7 +4,8 @@ import java.util.TreeSet;
 
 /**
  * The document's words as plainly as may be: nodes that hold lists, runs looked up one by one,
- * numbers counted anew at each question. Slow, and made without a look at how the class does it.
+ * numbers counted anew at each question. It shares no code with the class, but it reads the
+ * document as the class does: where that reading is wrong, both are.
  */
 final class PlainModel {
     private static final int END = 65536;
