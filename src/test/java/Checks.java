@@ -1,3 +1,5 @@
+import java.util.Arrays;
+
 /** Counts the answers that are not the due ones, and prints each of them. */
 final class Checks {
     private int made;
@@ -32,6 +34,13 @@ final class Checks {
             got = e.getClass().getName();
         }
         is(call + " throws", got, due.getName());
+    }
+
+    /** As fails(), and nothing that the object tells is changed by the call. */
+    void refuses(String call, Class<?> due, ExtentTree tree, Runnable body) {
+        byte[] before = Told.everything(tree);
+        fails(call, due, body);
+        is(call + " changes nothing", Arrays.equals(Told.everything(tree), before), true);
     }
 
     void end(String name) {

@@ -1,3 +1,5 @@
+import java.util.Arrays;
+
 /** Each promise of the document, with answers that were worked out from its words by hand. */
 public final class PromisesTest {
     private static final Class<?> ARGUMENT = IllegalArgumentException.class;
@@ -41,40 +43,6 @@ public final class PromisesTest {
         test.nodeByte();
         test.afterAThrow();
         test.checks.end("PromisesTest");
-    }
-
-    /** Written runs of one block at 10, 20, 30 .., none of which can be joined. */
-    private static ExtentTree tens(int m, int many) {
-        ExtentTree tree = new ExtentTree(m);
-        tree.spread(0, 10, 10, many, 101);
-        return tree;
-    }
-
-    /** What is at 0 in each entry of a node, or of a root (block 0). */
-    private static String firsts(ExtentTree tree, int block) {
-        StringBuilder text = new StringBuilder();
-        for (int entry = 0; entry < number(tree, block, 2, 2); entry++) {
-            text.append(entry == 0 ? "" : " ").append(number(tree, block, 12 + 12 * entry, 4));
-        }
-        return text.toString();
-    }
-
-    /** The blocks below file 0's root or below a block. */
-    private static String below(ExtentTree tree, int block) {
-        StringBuilder text = new StringBuilder();
-        for (int entry = 0; entry < number(tree, block, 2, 2); entry++) {
-            text.append(entry == 0 ? "" : " ").append(number(tree, block, 16 + 12 * entry, 4));
-        }
-        return text.toString();
-    }
-
-    private static int number(ExtentTree tree, int block, int at, int size) {
-        int value = 0;
-        for (int i = size - 1; i >= 0; i--) {
-            int told = block == 0 ? tree.rootByte(0, at + i) : tree.nodeByte(block, at + i);
-            value = value * 256 + told;
-        }
-        return value;
     }
 
     private void runs(String what, ExtentTree tree, int... due) {
@@ -272,79 +240,79 @@ public final class PromisesTest {
     }
 
     private void newEntrySplits() {
-        ExtentTree tree = tens(5, 6);
-        checks.is("root", firsts(tree, 0), "10 40");
-        checks.is("below", below(tree, 0), "1 2");
-        checks.is("old block", firsts(tree, 1), "10 20 30");
-        checks.is("new block", firsts(tree, 2), "40 50 60");
+        ExtentTree tree = Shapes.tens(5, 6);
+        checks.is("root", Told.firsts(tree, 0), "10 40");
+        checks.is("below", Told.below(tree, 0), "1 2");
+        checks.is("old block", Told.firsts(tree, 1), "10 20 30");
+        checks.is("new block", Told.firsts(tree, 2), "40 50 60");
         tree.put(0, 35, 1, 7, true);
         tree.put(0, 37, 1, 7, true);
-        checks.is("behind the run before", firsts(tree, 1), "10 20 30 35 37");
+        checks.is("behind the run before", Told.firsts(tree, 1), "10 20 30 35 37");
         tree.put(0, 15, 1, 7, true);
-        checks.is("into the old one", firsts(tree, 1), "10 15 20 30");
-        checks.is("cut off", firsts(tree, 3), "35 37");
-        checks.is("root with three", firsts(tree, 0), "10 35 40");
-        checks.is("in order", below(tree, 0), "1 3 2");
-        tree = tens(5, 5);
+        checks.is("into the old one", Told.firsts(tree, 1), "10 15 20 30");
+        checks.is("cut off", Told.firsts(tree, 3), "35 37");
+        checks.is("root with three", Told.firsts(tree, 0), "10 35 40");
+        checks.is("in order", Told.below(tree, 0), "1 3 2");
+        tree = Shapes.tens(5, 5);
         tree.put(0, 35, 1, 7, true);
-        checks.is("k is h", firsts(tree, 1), "10 20 30 35");
-        checks.is("k is h, new", firsts(tree, 2), "40 50");
-        tree = tens(5, 5);
+        checks.is("k is h", Told.firsts(tree, 1), "10 20 30 35");
+        checks.is("k is h, new", Told.firsts(tree, 2), "40 50");
+        tree = Shapes.tens(5, 5);
         tree.put(0, 45, 1, 7, true);
-        checks.is("k is h and 1", firsts(tree, 1), "10 20 30");
-        checks.is("k is h and 1, new", firsts(tree, 2), "40 45 50");
-        tree = tens(6, 7);
-        checks.is("half of 6 and 1, cut", firsts(tree, 1), "10 20 30");
-        checks.is("the rest", firsts(tree, 2), "40 50 60 70");
-        tree = tens(5, 5);
+        checks.is("k is h and 1", Told.firsts(tree, 1), "10 20 30");
+        checks.is("k is h and 1, new", Told.firsts(tree, 2), "40 45 50");
+        tree = Shapes.tens(6, 7);
+        checks.is("half of 6 and 1, cut", Told.firsts(tree, 1), "10 20 30");
+        checks.is("the rest", Told.firsts(tree, 2), "40 50 60 70");
+        tree = Shapes.tens(5, 5);
         tree.put(0, 5, 1, 7, true);
-        checks.is("first of all", firsts(tree, 0), "5 40");
-        checks.is("in the first leaf", firsts(tree, 1), "5 10 20 30");
+        checks.is("first of all", Told.firsts(tree, 0), "5 40");
+        checks.is("in the first leaf", Told.firsts(tree, 1), "5 10 20 30");
     }
 
     private void newEntryGrows() {
-        ExtentTree tree = tens(5, 4);
-        checks.is("in the root", firsts(tree, 0), "10 20 30 40");
+        ExtentTree tree = Shapes.tens(5, 4);
+        checks.is("in the root", Told.firsts(tree, 0), "10 20 30 40");
         checks.is("no block", tree.count(0, 2), 0);
         tree.put(0, 25, 1, 7, true);
-        checks.is("root above one", firsts(tree, 0), "10");
-        checks.is("leaf", firsts(tree, 1), "10 20 25 30 40");
+        checks.is("root above one", Told.firsts(tree, 0), "10");
+        checks.is("leaf", Told.firsts(tree, 1), "10 20 25 30 40");
         checks.is("depth", tree.count(0, 1), 1);
-        tree = tens(5, 14);
-        checks.is("full root", below(tree, 0), "1 2 3 4");
-        checks.is("full leaf", firsts(tree, 4), "100 110 120 130 140");
+        tree = Shapes.tens(5, 14);
+        checks.is("full root", Told.below(tree, 0), "1 2 3 4");
+        checks.is("full leaf", Told.firsts(tree, 4), "100 110 120 130 140");
         tree.put(0, 150, 1, 7, true);
-        checks.is("the leaf's block is taken first", firsts(tree, 5), "130 140 150");
-        checks.is("then the root's", below(tree, 0), "6");
-        checks.is("which has all", below(tree, 6), "1 2 3 4 5");
-        checks.is("their firsts", firsts(tree, 6), "10 40 70 100 130");
-        checks.is("root's depth", number(tree, 0, 6, 2), 2);
-        checks.is("block's depth", number(tree, 6, 6, 2), 1);
-        checks.is("leaf's depth", number(tree, 5, 6, 2), 0);
-        tree = tens(5, 17);
+        checks.is("the leaf's block is taken first", Told.firsts(tree, 5), "130 140 150");
+        checks.is("then the root's", Told.below(tree, 0), "6");
+        checks.is("which has all", Told.below(tree, 6), "1 2 3 4 5");
+        checks.is("their firsts", Told.firsts(tree, 6), "10 40 70 100 130");
+        checks.is("root's depth", Told.number(tree, 0, 6, 2), 2);
+        checks.is("block's depth", Told.number(tree, 6, 6, 2), 1);
+        checks.is("leaf's depth", Told.number(tree, 5, 6, 2), 0);
+        tree = Shapes.tens(5, 17);
         tree.put(0, 180, 1, 7, true);
-        checks.is("two in a row are split", below(tree, 0), "6 8");
-        checks.is("the leaf's first", firsts(tree, 7), "160 170 180");
-        checks.is("old one above", below(tree, 6), "1 2 3");
-        checks.is("new one above", below(tree, 8), "4 5 7");
+        checks.is("two in a row are split", Told.below(tree, 0), "6 8");
+        checks.is("the leaf's first", Told.firsts(tree, 7), "160 170 180");
+        checks.is("old one above", Told.below(tree, 6), "1 2 3");
+        checks.is("new one above", Told.below(tree, 8), "4 5 7");
     }
 
     private void entryGoes() {
-        ExtentTree tree = tens(5, 7);
+        ExtentTree tree = Shapes.tens(5, 7);
         tree.punch(0, 10, 25);
         checks.is("an empty block is given back", tree.free(), 255);
-        checks.is("and the root has the rest", firsts(tree, 0), "40 50 60 70");
-        tree = tens(5, 8);
+        checks.is("and the root has the rest", Told.firsts(tree, 0), "40 50 60 70");
+        tree = Shapes.tens(5, 8);
         tree.punch(0, 10, 1);
-        checks.is("begins later above", firsts(tree, 0), "20 40");
+        checks.is("begins later above", Told.firsts(tree, 0), "20 40");
         tree.punch(0, 20, 11);
-        checks.is("five are too many for a root", below(tree, 0), "2");
+        checks.is("five are too many for a root", Told.below(tree, 0), "2");
         tree.put(0, 90, 1, 7, true);
-        checks.is("the least free one is taken", below(tree, 0), "2 1");
-        tree = tens(5, 15);
+        checks.is("the least free one is taken", Told.below(tree, 0), "2 1");
+        tree = Shapes.tens(5, 15);
         checks.is("two deep", tree.count(0, 1), 2);
         tree.punch(0, 20, 65500);
-        checks.is("up by two at once", firsts(tree, 0), "10");
+        checks.is("up by two at once", Told.firsts(tree, 0), "10");
         checks.is("none deep", tree.count(0, 1), 0);
         checks.is("none taken", tree.free(), 255);
         tree.punch(0, 0, 65536);
@@ -356,11 +324,11 @@ public final class PromisesTest {
         tree.put(0, 60, 1, 500, true);
         tree.punch(0, 40, 11);
         tree.put(0, 58, 1, 498, true);
-        checks.is("before it", firsts(tree, 1), "10 20 30 58");
-        checks.is("alone", firsts(tree, 2), "60");
+        checks.is("before it", Told.firsts(tree, 1), "10 20 30 58");
+        checks.is("alone", Told.firsts(tree, 2), "60");
         checks.is("three become one", tree.put(0, 59, 1, 499, true), 4);
         checks.is("both blocks are given back", tree.free(), 255);
-        checks.is("the root has all", firsts(tree, 0), "10 20 30 58");
+        checks.is("the root has all", Told.firsts(tree, 0), "10 20 30 58");
         checks.is("longer", tree.reach(0, 58), 3);
     }
 
@@ -419,9 +387,9 @@ public final class PromisesTest {
         tree.put(0, 2, 1, 12, true);
         tree.spread(0, 10, 10, 3, 500);
         tree.punch(1, 0, 65536);
-        checks.is("block 2", below(tree, 0), "2");
+        checks.is("block 2", Told.below(tree, 0), "2");
         checks.is("one that joins, one that does not", tree.spread(0, 1, 4, 2, 11), 2);
-        checks.is("block 1", below(tree, 0), "1");
+        checks.is("block 1", Told.below(tree, 0), "1");
     }
 
     private void punch() {
@@ -445,12 +413,12 @@ public final class PromisesTest {
         runs("cut", tree, 110, 10, 302, 1, 304, 1);
         checks.is("all", tree.punch(0, 0, 65536), 12);
         checks.is("no runs", tree.count(0, 0), 0);
-        tree = tens(5, 4);
+        tree = Shapes.tens(5, 4);
         tree.put(0, 50, 3, 700, true);
         tree.punch(0, 51, 1);
-        checks.is("a new entry right behind its own", firsts(tree, 2), "40 50 52");
+        checks.is("a new entry right behind its own", Told.firsts(tree, 2), "40 50 52");
         tree.punch(0, 30, 30);
-        checks.is("a leaf goes, the rest is the root's", firsts(tree, 0), "10 20");
+        checks.is("a leaf goes, the rest is the root's", Told.firsts(tree, 0), "10 20");
         checks.is("no depth", tree.count(0, 1), 0);
         checks.is("no block", tree.free(), 255);
     }
@@ -494,10 +462,10 @@ public final class PromisesTest {
         settled.put(0, 4, 3, 100, true);
         settled.spread(0, 10, 10, 3, 500);
         settled.punch(1, 0, 65536);
-        checks.is("block 2", below(settled, 0), "2");
+        checks.is("block 2", Told.below(settled, 0), "2");
         checks.is("one that goes, one that is cut", settled.strip(0, 0, 5, 2), 2);
-        checks.is("block 1", below(settled, 0), "1");
-        checks.is("cut", firsts(settled, 1), "4 6 10 20 30");
+        checks.is("block 1", Told.below(settled, 0), "1");
+        checks.is("cut", Told.firsts(settled, 1), "4 6 10 20 30");
         for (int file : WRONG_FILES) {
             checks.fails("strip file", ARGUMENT, () -> tree.strip(file, 0, 1, 1));
         }
@@ -557,20 +525,20 @@ public final class PromisesTest {
         for (int i = 1; i <= 6; i++) {
             tree.put(0, 10 * i, 1, 100 * i, false);
         }
-        checks.is("first in its leaf", firsts(tree, 2), "40 50 60");
+        checks.is("first in its leaf", Told.firsts(tree, 2), "40 50 60");
         checks.is("written whole", tree.write(0, 40, 1), 6);
-        checks.is("behind the run before", firsts(tree, 1), "10 20 30 40");
-        checks.is("gone from its own", firsts(tree, 2), "50 60");
-        checks.is("told above", firsts(tree, 0), "10 50");
+        checks.is("behind the run before", Told.firsts(tree, 1), "10 20 30 40");
+        checks.is("gone from its own", Told.firsts(tree, 2), "50 60");
+        checks.is("told above", Told.firsts(tree, 0), "10 50");
         checks.is("once more", tree.write(0, 50, 1), 6);
-        checks.is("full", firsts(tree, 1), "10 20 30 40 50");
+        checks.is("full", Told.firsts(tree, 1), "10 20 30 40 50");
         checks.is("the last of its leaf", tree.write(0, 60, 1), 6);
         // Its own leaf, block 2, is given back first, so the split takes it again.
-        checks.is("split", firsts(tree, 1), "10 20 30");
-        checks.is("with the same block", firsts(tree, 2), "40 50 60");
+        checks.is("split", Told.firsts(tree, 1), "10 20 30");
+        checks.is("with the same block", Told.firsts(tree, 2), "40 50 60");
         checks.is("free", tree.free(), 253);
         checks.is("the first one", tree.write(0, 10, 1), 6);
-        checks.is("stays first", firsts(tree, 1), "10 20 30");
+        checks.is("stays first", Told.firsts(tree, 1), "10 20 30");
     }
 
     private void writeSettlesAtItsEnd() {
@@ -582,17 +550,17 @@ public final class PromisesTest {
             tree.put(0, 10 * i, 1, 100 * i, false);
         }
         tree.punch(1, 0, 65536);
-        checks.is("block 2", below(tree, 0), "2");
+        checks.is("block 2", Told.below(tree, 0), "2");
         tree.write(0, 30, 1);
-        checks.is("still block 2", below(tree, 0), "2");
-        checks.is("five", firsts(tree, 2), "10 20 30 40 50");
+        checks.is("still block 2", Told.below(tree, 0), "2");
+        checks.is("five", Told.firsts(tree, 2), "10 20 30 40 50");
         tree = new ExtentTree(5);
         tree.spread(0, 10, 10, 3, 100);
         tree.put(0, 31, 1, 105, false);
         tree.put(0, 40, 1, 200, true);
-        checks.is("five in a block", firsts(tree, 1), "10 20 30 31 40");
+        checks.is("five in a block", Told.firsts(tree, 1), "10 20 30 31 40");
         checks.is("joined", tree.write(0, 31, 1), 4);
-        checks.is("the root has the four", firsts(tree, 0), "10 20 30 40");
+        checks.is("the root has the four", Told.firsts(tree, 0), "10 20 30 40");
         checks.is("no block", tree.free(), 255);
     }
 
@@ -679,7 +647,7 @@ public final class PromisesTest {
     }
 
     private void reach() {
-        ExtentTree tree = tens(5, 40);
+        ExtentTree tree = Shapes.tens(5, 40);
         checks.is("deep enough", tree.count(0, 1) >= 2, true);
         for (int block = 0; block < 400; block++) {
             int due = block % 10 == 0 && block > 0 ? 1 : 10 - block % 10;
@@ -700,7 +668,7 @@ public final class PromisesTest {
     }
 
     private void count() {
-        ExtentTree tree = tens(5, 15);
+        ExtentTree tree = Shapes.tens(5, 15);
         tree.put(0, 1000, 7, 5000, false);
         int[] due = {16, 2, 6, 22, 15, 5};
         for (int what = 0; what < due.length; what++) {
@@ -720,7 +688,7 @@ public final class PromisesTest {
     }
 
     private void free() {
-        ExtentTree tree = tens(5, 4);
+        ExtentTree tree = Shapes.tens(5, 4);
         checks.is("none taken", tree.free(), 255);
         tree.put(0, 50, 1, 7, true);
         checks.is("one", tree.free(), 254);
@@ -801,27 +769,14 @@ public final class PromisesTest {
     }
 
     private void afterAThrow() {
-        ExtentTree tree = tens(5, 15);
-        String before = dump(tree);
+        ExtentTree tree = Shapes.tens(5, 15);
+        byte[] before = Told.everything(tree);
         checks.fails("put", STATE, () -> tree.put(0, 5, 6, 1, true));
         checks.fails("put", ARGUMENT, () -> tree.put(0, 65535, 2, 1, true));
         checks.fails("write", STATE, () -> tree.write(0, 10, 1));
         checks.fails("punch", ARGUMENT, () -> tree.punch(0, 10, 65536));
         checks.fails("spread", ARGUMENT, () -> tree.spread(0, 1, 2000, 40, 1));
         checks.fails("strip", ARGUMENT, () -> tree.strip(0, 10, 2000, 40));
-        checks.is("nothing is changed", dump(tree), before);
-    }
-
-    private static String dump(ExtentTree tree) {
-        StringBuilder text = new StringBuilder();
-        for (int i = 0; i < 60; i++) {
-            text.append(tree.rootByte(0, i)).append(' ');
-        }
-        for (int block = 1; block <= 255 - tree.free(); block++) {
-            for (int i = 0; i < 1024; i++) {
-                text.append(tree.nodeByte(block, i)).append(' ');
-            }
-        }
-        return text.toString();
+        checks.is("nothing is changed", Arrays.equals(Told.everything(tree), before), true);
     }
 }
